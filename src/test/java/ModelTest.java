@@ -271,9 +271,10 @@ public final class ModelTest {
         int writing = numbers.from(5, 60);
         int closing = numbers.from(1, 8);
         int removing = numbers.from(0, 2);
+        int building = numbers.from(10, 90) * MOST_CALLS_A_ROUND;
         int made = 0;
         while (made + MOST_CALLS_A_ROUND <= CALLS) {
-            boolean writes = made < 40 * MOST_CALLS_A_ROUND || numbers.below(1000) < writing;
+            boolean writes = made < building || numbers.below(1000) < writing;
             String differs = writes
                     ? write(program, model, numbers, closing, removing)
                     : ask(program, model, numbers);
