@@ -1276,6 +1276,9 @@ public final class BoundariesTest {
                         x -> x.having(number, number, wanted));
             }
         }
+        dueRefused("having(11, 10, true)", BoundariesTest::fullWithSets, x -> x.having(11, 10, true));
+        dueRefused("having(1, 11, false)", BoundariesTest::fullWithSets, x -> x.having(1, 11, false));
+        dueRefused("having(-1, 10, true)", TreePaths::new, x -> x.having(-1, 10, true));
         due("having(0, 10, true)", treeWithSets().having(0, 10, true), 2);
         due("having(10, 10, true)", treeWithSets().having(10, 10, true), 2);
         due("having(10, 10, false)", treeWithSets().having(10, 10, false), 0);
@@ -1458,6 +1461,9 @@ public final class BoundariesTest {
                 dueRefused("mix(" + slot + ", " + kind + ")", BoundariesTest::treeWithSets, x -> x.mix(of, kind));
             }
         }
+        dueRefused("mix(0, 3)", BoundariesTest::fullWithSets, x -> x.mix(0, 3));
+        dueRefused("mix(1, -1)", BoundariesTest::fullWithSets, x -> x.mix(1, -1));
+        dueRefused("mix(0, 3)", TreePaths::new, x -> x.mix(0, 3));
         due("mix(1, 0)", treeWithSets().mix(1, 0), 2);
         due("mix(0, 0)", treeWithSets().mix(0, 0), 0);
         due("mix(1, 2)", treeWithSets().mix(1, 2), 0);
